@@ -380,10 +380,6 @@ public final class TwoCars {
             return load < plan.numbers[ROOM] && load < riders.length;
         }
 
-        boolean goesOnTo(int goal) {
-            return way > 0 ? goal > place : goal < place;
-        }
-
         int pullOfNextStep(Plan plan) {
             int weight = plan.numbers[EMPTY] + plan.numbers[PERSON] * load;
             return weight * (plan.heights[place + way] - plan.heights[place]);
@@ -429,8 +425,9 @@ public final class TwoCars {
             int time = t;
             serveBoth(plan, time);
             for (int step = 0; step < plan.n; step++) {
-                if (step > 0) {
-                    time += stopBetween(plan, time);
+                if (step > 0 && noteStop(plan, time)) {
+                    serveBoth(plan, time);
+                    time++;
                 }
                 notePull(plan, step);
                 a.place += way;
@@ -463,18 +460,17 @@ public final class TwoCars {
             newcomers = 0;
         }
 
-        private int stopBetween(Plan plan, int time) {
+        private boolean noteStop(Plan plan, int time) {
             boolean useOfA = hasUse(plan, a, time);
             boolean useOfB = hasUse(plan, b, time);
             if (!useOfA && !useOfB) {
-                return 0;
+                return false;
             }
             stops++;
             if (!useOfA || !useOfB) {
                 idle++;
             }
-            serveBoth(plan, time);
-            return 1;
+            return true;
         }
 
         private void notePull(Plan plan, int step) {
@@ -508,7 +504,8 @@ public final class TwoCars {
         }
 
         private boolean wouldBoard(Plan plan, Car car, int who, int time) {
-            return states[who] == WAITS && plan.minutes[who] <= time && car.goesOnTo(plan.to[who]);
+            boolean onItsWay = (plan.to[who] - car.place) * car.way > 0;
+            return onItsWay && states[who] == WAITS && plan.minutes[who] <= time;
         }
 
         private void serveBoth(Plan plan, int time) {

@@ -13,6 +13,7 @@ public final class RideTest {
         boardingOrder();
         whoGoesTheOtherWayWaits();
         carPassesAPlaceThatIsNoHalt();
+        carPassesAHaltWhereNobodyIs();
         pulls();
         heavyAboveMotor();
         counts();
@@ -167,6 +168,17 @@ public final class RideTest {
         c.rode(x, 1, 1, 0, 80, 0, 1, 5);
         x.ride(5);
         c.rode(x, 0, 0, 0, 0, 0, 0, 4);
+    }
+
+    private static void carPassesAHaltWhereNobodyIs() {
+        c.part("terms, a halt where nobody is");
+        TwoCars x = new TwoCars();
+        x.halt(1, true);
+        x.halt(2, true);
+        x.person(2, 4, 0);
+        c.due("ride(0)", x.ride(0), 5);
+        c.person(x, 0, 3, 2, 4, 0, 2, 5);
+        c.rode(x, 1, 1, 0, 80, 2, 1, 5);
     }
 
     private static void pulls() {
