@@ -33,6 +33,7 @@ public final class DayBoundsTest {
         bestOfMoreThanThereAre();
         bestOfEqualOnes();
         bestOfTheLastBits();
+        bestOfTheMiddleBits();
         bestChangesNothing();
         c.end();
     }
@@ -389,6 +390,28 @@ public final class DayBoundsTest {
         x.person(4, 0, 11);
         // the second ride takes it: at 20 (9), not at 80
         c.due("best(2), the next to the last", x.best(2), 192);
+    }
+
+    private static void bestOfTheMiddleBits() {
+        c.part("promise 15, the least sum is neither the first nor the last");
+        TwoCars x = new TwoCars();
+        x.person(0, 4, 5);
+        x.at(30);
+        x.at(10);
+        x.at(20);
+        x.at(40);
+        c.due("best(1): 25, 5, 15, 35", x.best(1), 2);
+        x.person(4, 0, 25);
+        // 10 and 30: 5 and 5; 10 and 20: 5, and the second comes behind the end, 24
+        c.due("best(2)", x.best(2), 6);
+        c.due("day(3)", x.day(3), 10);
+        c.due("day(6)", x.day(6), 5);
+        x.clear();
+        x.at(5);
+        x.at(9);
+        x.at(8);
+        // the second waits from 25 on, behind each end
+        c.due("best(1): the first", x.best(1), 1);
     }
 
     private static void bestChangesNothing() {

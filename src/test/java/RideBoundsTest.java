@@ -21,6 +21,7 @@ public final class RideBoundsTest {
         useByRoom();
         useByRoomBehindThoseWhoGetOff();
         useOnlyOnItsWay();
+        useOnlyOfThisHalt();
         boardAsLongAsThereIsRoom();
         boardByMinute();
         boardByNumber();
@@ -249,6 +250,26 @@ public final class RideBoundsTest {
         c.due("A takes it up by one PLACE", y.ride(0), 6);
         c.due("at 1", y.of(0, 4), 1);
         c.due("to 2", y.of(0, 5), 3);
+    }
+
+    private static void useOnlyOfThisHalt() {
+        c.part("term 2, USE: somebody waits there, goes to that HALT");
+        TwoCars x = new TwoCars();
+        x.line(8);
+        for (int place = 1; place < 8; place++) {
+            x.halt(place, true);
+        }
+        x.person(3, 8, 0);
+        c.due("waits at 3, not at 2 or 4", x.ride(0), 9);
+        c.rode(x, 1, 1, 0, 80, 3, 1, 9);
+        x.line(8);
+        for (int place = 1; place < 8; place++) {
+            x.halt(place, true);
+        }
+        x.person(8, 5, 0);
+        c.due("goes to 5, not to 6 or 4", x.ride(0), 9);
+        c.rode(x, 1, 1, 0, 80, 0, 1, 9);
+        c.due("it has come at 3", x.of(0, 5), 3);
     }
 
     private static void boardAsLongAsThereIsRoom() {
