@@ -4,6 +4,7 @@ import java.lang.reflect.Method;
 import java.lang.reflect.Modifier;
 import java.util.Arrays;
 import java.util.List;
+import java.util.NoSuchElementException;
 import java.util.TreeSet;
 
 /** The public face is the document's, and nothing else of the class can be seen from outside. */
@@ -23,6 +24,7 @@ public final class FaceTest {
             c.yes("public constructor", Modifier.isPublic(made.getModifiers()) && made.getParameterCount() == 0);
         }
         methods();
+        declaredThrows();
         fields();
         c.end();
     }
@@ -53,9 +55,20 @@ public final class FaceTest {
         }
     }
 
+    private static void declaredThrows() {
+        for (Method method : TwoCars.class.getDeclaredMethods()) {
+            List<Class<?>> due = method.getName().equals("of") ? List.of(NoSuchElementException.class) : List.of();
+            c.yes(method.getName() + " declares " + due, List.of(method.getExceptionTypes()).equals(due));
+        }
+    }
+
     private static void fields() {
         for (Field field : TwoCars.class.getDeclaredFields()) {
-            if (!field.getName().equals("NONE")) {
+            if (field.getName().equals("NONE")) {
+                int modifiers = Modifier.PUBLIC | Modifier.STATIC | Modifier.FINAL;
+                c.due("modifiers of NONE", field.getModifiers(), modifiers);
+                c.yes("NONE is an int", field.getType() == int.class);
+            } else {
                 c.yes(field.getName() + " is private", Modifier.isPrivate(field.getModifiers()));
             }
             if (Modifier.isStatic(field.getModifiers())) {

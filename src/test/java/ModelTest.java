@@ -91,7 +91,9 @@ public final class ModelTest {
     }
 
     private static void set(TwoCars x, Model m, int what) {
-        int[] bounds = {11, 6, 502, 502, below(2) == 0 ? 3000 : 1000002, 20, 18, 102};
+        int room = below(2) == 0 ? 6 : 22;
+        int motor = below(2) == 0 ? 3000 : 1000002;
+        int[] bounds = {11, room, 502, 502, motor, 20, 18, 102};
         int v = near(what >= 0 && what < 8 ? bounds[what] : 10);
         c.due("set(" + what + ", " + v + ")", x.set(what, v), m.set(what, v));
     }
